@@ -159,6 +159,8 @@ public final class CalendarTest {
         due.is("blanks that aren't needed", Scene.readNew("days5;person0 0 0;free0 4;out0 07"), 4);
         due.is("blanks all over", Scene.readNew("   days   5  ;  least   1   "), 2);
         due.is("two digits", Scene.readNew("days 09;least 08;lose 00"), 3);
+        due.is("the least numbers", Scene.readNew("days 1;person 0 0 0;free 0 0;host 0;least 1;lose 0;out 0 0"), 7);
+        due.is("the greatest numbers", Scene.readNew("days 14;person 5 13 12;free 0 13;host 0;least 8;lose 12;out 0 99"), 7);
         WhenCanAllSix y = new WhenCanAllSix();
         due.is("fewer DAYS, then more", Scene.read(y, "person 2 0 0;free 0 10;free 0 1;days 3;days 11"), 5);
         due.is("FREE of 0", y.personOf(0, 3), 2);
@@ -203,6 +205,7 @@ public final class CalendarTest {
         fault(0, "dayz 9");
         fault(0, "day 9");
         fault(0, "dayss 9");
+        fault(0, "bays 9");
         fault(0, "Days 9");
         fault(0, "dAys 9");
         fault(1, " {");

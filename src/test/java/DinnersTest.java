@@ -98,6 +98,8 @@ public final class DinnersTest {
         due.is("worst: of several the first", x.worst(), 3);
         x.out(5, 3);
         due.is("worst", x.worst(), 5);
+        x.out(1, 4);
+        due.is("worst", x.worst(), 1);
         due.refused(Due.STUCK, Scene::fresh, "worst", y -> y.worst());
     }
 

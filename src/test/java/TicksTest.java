@@ -44,10 +44,12 @@ public final class TicksTest {
         Scene.free(waiting, waiting.person(2, 1, 0), 0, 1);
         Scene.free(waiting, waiting.person(2, 2, 0), 0, 1);
         Scene.free(waiting, waiting.person(2, 1, 0), 0, 1, 2, 3);
+        Scene.free(waiting, waiting.person(2, 2, 0), 0, 2, 3);
         due.row("WAITING for nobody", i -> waiting.tick(0, i), 2, 0, 2, 0);
         due.row("WAITING for one", i -> waiting.tick(1, i), 2, 1, 0, 0);
         due.row("WAITING for two", i -> waiting.tick(2, i), 2, 1, 0, 0);
         due.row("WAITING for one, not for a 1", i -> waiting.tick(3, i), 2, 1, 2, 1);
+        due.row("WAITING for two, not for one", i -> waiting.tick(4, i), 2, 0, 2, 1);
 
         WhenCanAllSix half = new WhenCanAllSix();
         half.days(2);
@@ -110,6 +112,7 @@ public final class TicksTest {
         due.is("best(1)", none.best(1), -1);
         WhenCanAllSix several = Scene.persons(5, Scene.on(1, 3), Scene.on(1, 3), Scene.on(2));
         due.is("best(0) of several", several.best(0), 1);
+        due.is("best(1) of several", several.best(1), 1);
         several.ask(0, 2);
         due.is("best(1)", several.best(1), 2);
         due.refused(Due.BAD, SIX, "best(2)", y -> y.best(2));
@@ -159,6 +162,7 @@ public final class TicksTest {
         WhenCanAllSix y = Scene.persons(5, Scene.on(0), Scene.on(0, 3));
         y.person(3, 0, 0);
         due.is("quiet: a 1 is quiet", y.quiet(), 2 + 4 + 16);
+        due.is("quiet but for the first of them", Scene.persons(5, Scene.on(2), Scene.on()).quiet(), 1 + 2 + 8 + 16);
     }
 
     private static void agree() {
