@@ -118,6 +118,13 @@ public final class ShelvesTest {
         due.row("status 12 +", i -> x.status(12 + i), 0, 0, 0, 0, 0);
         x.show(0, 1);
         due.is("element(0, 0) after show", x.element(0, 0), 0);
+        x.row(7, 3, 40);
+        x.set(7, 39, -7);
+        due.is("element(7, 39)", x.element(7, 39), -7);
+        due.is("element(7, 40)", x.element(7, 40), 0);
+        due.is("element(7, MAX)", x.element(7, Integer.MAX_VALUE), 0);
+        due.is("element(7, MIN)", x.element(7, Integer.MIN_VALUE), 0);
+        due.is("element(7, -1)", x.element(7, -1), 0);
     }
 
     private static void holds() {
