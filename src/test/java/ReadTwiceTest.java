@@ -9,8 +9,8 @@ import java.util.Random;
 
 /** Runs of calls, the same each time, answered by the class and by a second, plain reading of the document. */
 public final class ReadTwiceTest {
-    // A look at the end makes 162 calls at most: 512 in all.
-    private static final int CALLS = 340;
+    // A look at the end makes 180 calls at most: 512 in all.
+    private static final int CALLS = 310;
     private static final String NOISE = ";; 9a\0\u00e9\n{`:/zA";
     private static final long[] FAR = {
         Integer.MIN_VALUE, Integer.MAX_VALUE, Integer.MIN_VALUE + 1L, Integer.MAX_VALUE - 1L, -100, 1000001, 250, 99, 100
@@ -76,7 +76,7 @@ public final class ReadTwiceTest {
             }
         }
         String seen = Look.at(x);
-        String due = lookAtPlain();
+        String due = Look.at(plain::call);
         return seen.equals(due) ? null : told + " and then is " + seen + ", due is " + due;
     }
 
@@ -192,26 +192,5 @@ public final class ReadTwiceTest {
         if (!got.equals("" + want)) {
             told.append(" DIFFERS, due is ").append(want);
         }
-    }
-
-    // The same that Look sees of the class.
-    private String lookAtPlain() {
-        StringBuilder seen = new StringBuilder();
-        for (int what = 0; what <= 9; what++) {
-            seen.append(plain.call("status", what)).append(' ');
-        }
-        for (int person = 0; person < plain.call("status", 0); person++) {
-            for (int what = 0; what <= 4; what++) {
-                seen.append(plain.call("personOf", person, what)).append(' ');
-            }
-        }
-        for (int s = 0; s < 8; s++) {
-            long held = plain.call("holds", s);
-            seen.append(held).append(' ');
-            for (int i = 0; i < 12 && held >= 0 && held <= 4; i++) {
-                seen.append(plain.call("element", s, i)).append(' ');
-            }
-        }
-        return seen.toString();
     }
 }

@@ -56,6 +56,11 @@ final class Scene {
      */
     static WhenCanAllSix six() {
         WhenCanAllSix x = new WhenCanAllSix();
+        becomeSix(x);
+        return x;
+    }
+
+    private static void becomeSix(WhenCanAllSix x) {
         x.days(9);
         x.person(0, 0, 9);
         x.person(1, 0, 8);
@@ -68,7 +73,6 @@ final class Scene {
         free(x, 3, 4);
         free(x, 4, 1, 4);
         free(x, 5, 4);
-        return x;
     }
 
     /** Six with a ROW of bytes in SHELF 0, one of shorts in 1, person 3 in SHELF 2, NOTHING in the others. */
@@ -77,6 +81,58 @@ final class Scene {
         row(x, 0, 0, 1, 4, 5, 6, 7, 8, 9, 10, 11, 12);
         row(x, 1, 1, 3, 1, 4);
         x.show(2, 3);
+        return x;
+    }
+
+    /**
+     * Six with something in all that there is: an image of nobody on 12 DAYS, HOST 5, LOSE 7, a DINNER on 4, OUT 12
+     * of person 2, SEED 77, "days 3" on THE TAPE; a ROW of 10 bytes in SHELF 0, of 3 shorts in 1, person 3 in 2.
+     */
+    static WhenCanAllSix rich() {
+        WhenCanAllSix x = new WhenCanAllSix();
+        x.days(12);
+        x.seed(5);
+        x.image();
+        becomeSix(x);
+        x.ask(0, 5);
+        x.ask(2, 7);
+        x.dine(4);
+        x.out(2, 12);
+        x.seed(77);
+        feed(x, "days 3");
+        row(x, 0, 0, 1, 4, 5, 6, 7, 8, 9, 10, 11, 12);
+        row(x, 1, 1, 3, 1, 4);
+        x.show(2, 3);
+        return x;
+    }
+
+    /** Eight PEOPLE, the most there can be, of KINDS 0 to 5, 0 and 1, on 14 DAYS, the most there can be. */
+    static WhenCanAllSix eight() {
+        WhenCanAllSix x = new WhenCanAllSix();
+        x.days(14);
+        for (int p = 0; p < 8; p++) {
+            x.person(p % 6, p, 12 - p);
+        }
+        return x;
+    }
+
+    /** As many DAYS, and nobody. */
+    static WhenCanAllSix nobody(int days) {
+        WhenCanAllSix x = new WhenCanAllSix();
+        x.days(days);
+        return x;
+    }
+
+    /** As many PEOPLE, PERSONS of LIKELY 6, on as many DAYS, all of them FREE on all DAYS. */
+    static WhenCanAllSix allFree(int people, int days) {
+        WhenCanAllSix x = new WhenCanAllSix();
+        x.days(days);
+        for (int p = 0; p < people; p++) {
+            x.person(0, 0, 6);
+            for (int day = 0; day < days; day++) {
+                x.free(p, day, true);
+            }
+        }
         return x;
     }
 }

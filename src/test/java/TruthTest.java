@@ -19,20 +19,6 @@ public final class TruthTest {
         due.end();
     }
 
-    /** The DRAWS that are due, told anew here. */
-    private static final class Draws {
-        private int seed;
-
-        Draws(int seed) {
-            this.seed = seed;
-        }
-
-        int next() {
-            seed = (int) (seed * 1103515245L + 12345L);
-            return ((seed >> 16) & 0xFFFF) % 12;
-        }
-    }
-
     private static void dine() {
         due.promise(57);
         WhenCanAllSix x = Scene.six();
@@ -87,7 +73,7 @@ public final class TruthTest {
         for (int p = 0; p < 6; p++) {
             due.is("FREE of " + p, x.personOf(p, 3), free[p]);
         }
-        due.is("SEED", x.status(8), draws.seed);
+        due.is("SEED", x.status(8), draws.seed());
     }
 
     private static void pass() {
@@ -125,7 +111,7 @@ public final class TruthTest {
         for (int p = 0; p < 8; p++) {
             due.is("FREE of " + p, x.personOf(p, 3), free[p]);
         }
-        due.is("SEED", x.status(8), draws.seed);
+        due.is("SEED", x.status(8), draws.seed());
     }
 
     private static void fill() {
