@@ -240,8 +240,6 @@ public final class CalendarTest {
         fault(13, "person 0 0 0;seed 1");
         due.is("the last that there is room for", Scene.read(eight(), "out 7 1"), 1);
         due.is("no room: its word", Scene.read(eight(), "days 3; person 0 0 0"), -28);
-        due.is("no room: its word, whatever follows", Scene.read(eight(), "person 9"), -20);
-        due.is("no room: its word, at the end", Scene.read(eight(), "person"), -20);
         due.is("a ninth in the text", Scene.read(Scene.six(), "person 0 0 0;person 0 0 0;person 0 0 0"), -46);
     }
 

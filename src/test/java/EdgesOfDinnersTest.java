@@ -8,6 +8,7 @@ public final class EdgesOfDinnersTest {
 
     public static void main(String[] args) {
         nothingIsChanged();
+        notByTicks();
         twoDinners();
         two();
         fixed();
@@ -83,6 +84,78 @@ public final class EdgesOfDinnersTest {
         due.row("status 12 +", i -> x.status(12 + i), 0, 0, 0, 0, 0);
     }
 
+    /** Eight of these KINDS in turn, a 3, each FREE on other DAYS, person 1 on none. */
+    private static WhenCanAllSix kinds(int... kinds) {
+        WhenCanAllSix x = Scene.nobody(14);
+        for (int p = 0; p < 8; p++) {
+            x.person(kinds[p % kinds.length], 3, 6);
+            for (int day = p; day < 14 && p != 1; day += 1 + p % 4) {
+                x.free(p, day, true);
+            }
+            x.out(p, p % 3);
+        }
+        x.ask(0, 4);
+        x.ask(1, 4);
+        return x;
+    }
+
+    private static void notByTicks() {
+        due.sentence(21, "THERE on a DAY: those (bits) for whom it is FREE.");
+        WhenCanAllSix x = kinds(0, 1, 2, 3, 4, 5, 1, 2);
+        WhenCanAllSix persons = kinds(0);
+        due.isTrue("the TICKS differ", x.count(0) != persons.count(0));
+        due.promise(29);
+        due.row("two", x::two, persons.two(0), persons.two(1));
+        due.promise(30);
+        due.is("fixed", x.fixed(), persons.fixed());
+        due.promise(31);
+        due.row("fair(3, i)", i -> x.fair(3, i), persons.fair(3, 0), persons.fair(3, 1), persons.fair(3, 2));
+        due.promise(33);
+        due.row("drop", x::drop, persons.drop(0), persons.drop(1));
+        due.promise(34);
+        due.is("pairs", x.pairs(), persons.pairs());
+        due.promise(41);
+        due.is("alone", x.alone(), persons.alone());
+        due.promise(44);
+        due.row("three", x::three, persons.three(0), persons.three(1), persons.three(2));
+        due.promise(45);
+        due.is("run", x.run(), persons.run());
+        due.promise(48);
+        due.is("mean", x.mean(), persons.mean());
+        for (int i = 0; i < 8; i++) {
+            due.promise(42);
+            due.is("with " + i, x.with(i), persons.with(i));
+            due.promise(43);
+            due.is("reach " + i, x.reach(i), persons.reach(i));
+            due.promise(46);
+            due.is("weeks " + i, x.weeks(i), persons.weeks(i));
+            due.promise(49);
+            due.is("withHost " + i, x.withHost(i), persons.withHost(i));
+            due.promise(51);
+            due.is("later " + i, x.later(i), persons.later(i));
+        }
+        due.promise(27);
+        due.is("known", x.known(0, 1), persons.known(0, 1));
+        due.promise(22);
+        due.is("all", x.all(), persons.all());
+        due.promise(33);
+        due.row("drop the POLITE who is never THERE", leavesTwo(1)::drop, 1, 2);
+        due.row("drop the HALF who is never THERE", leavesTwo(3)::drop, 1, 2);
+        due.promise(49);
+        WhenCanAllSix polite = leavesTwo(1);
+        polite.ask(0, 1);
+        due.row("withHost, a POLITE who is never THERE", polite::withHost, -1, -1, -1);
+    }
+
+    /** Without person 1, who is of this KIND and FREE on no DAY, the others are all THERE on two DAYS. */
+    private static WhenCanAllSix leavesTwo(int kind) {
+        WhenCanAllSix x = Scene.nobody(5);
+        Scene.free(x, x.person(0, 0, 6), 0, 3, 4);
+        x.person(kind, 0, 6);
+        Scene.free(x, x.person(0, 0, 6), 3, 4);
+        return x;
+    }
+
     private static void twoDinners() {
         due.sentence(29, "TWO dinners: two DAYS, the earlier and the later, so that most are THERE on one of them "
             + "at least, of several the first by rows: how many; the i-th DAY (NONE: fewer than two DAYS).");
@@ -115,6 +188,10 @@ public final class EdgesOfDinnersTest {
         due.is("fixed of nobody on 14 DAYS", Scene.nobody(14).fixed(), 0);
         due.is("fixed, all alike", MOST.get().fixed(), 0);
         due.is("fixed, the last of the week", persons(7, on(6)).fixed(), 6);
+        for (int r = 0; r < 7; r++) {
+            due.is("fixed, THERE on " + r + " alone", persons(7, on(r)).fixed(), r);
+            due.is("fixed, THERE on " + (7 + r) + " alone", persons(14, on(7 + r)).fixed(), r);
+        }
         due.is("fixed, 7 is 0", persons(8, on(1), on(7), on(7)).fixed(), 0);
         due.is("fixed, 13 is 6", persons(14, on(13)).fixed(), 6);
         due.is("fixed, both its DAYS together", persons(14, on(3, 10), on(5), on(5, 12), on(12)).fixed(), 5);
@@ -204,8 +281,10 @@ public final class EdgesOfDinnersTest {
         due.is("worst of one", persons(1, on()).worst(), 0);
         WhenCanAllSix x = Scene.eight();
         due.is("worst, none was left out", x.worst(), 0);
-        x.out(7, 1);
-        due.is("worst, the last", x.worst(), 7);
+        for (int p = 7; p >= 0; p--) {
+            x.out(p, 9 - p);
+            due.is("worst, by one more", x.worst(), p);
+        }
         x.out(3, 99);
         x.out(4, 99);
         due.is("worst, of several the first", x.worst(), 3);
@@ -224,6 +303,11 @@ public final class EdgesOfDinnersTest {
         due.row("drop: of several the first, all DAYS", MOST.get()::drop, 0, 14);
         due.row("drop: of several the first, no DAY", persons(3, on(), on(), on())::drop, 0, 0);
         due.row("drop the last", persons(14, on(0, 13), on(0, 13), on(5))::drop, 2, 2);
+        for (int p = 0; p < 8; p++) {
+            WhenCanAllSix x = MOST.get();
+            x.clear(p);
+            due.row("drop who is never THERE", x::drop, p, 14);
+        }
         due.row("drop: he himself may be THERE", persons(3, on(0, 1), on(1, 2), on(1))::drop, 0, 1);
         due.row("drop: DAYS, not people", persons(4, on(0, 1), on(1, 2, 3), on(0, 1, 2))::drop, 0, 2);
     }
@@ -244,10 +328,17 @@ public final class EdgesOfDinnersTest {
         due.is("pairs of one", Scene.allFree(1, 14).pairs(), -1);
         due.is("pairs of two who have none together", persons(2, on(0), on(1)).pairs(), 1);
         due.is("pairs: of several the first", MOST.get().pairs(), 1);
+        for (int p = 0; p < 8; p++) {
+            for (int q = p + 1; q < 8; q++) {
+                WhenCanAllSix two = Scene.eight();
+                Scene.free(two, p, 13);
+                Scene.free(two, q, 13);
+                due.is("pairs", two.pairs(), 10 * p + q);
+            }
+        }
         WhenCanAllSix x = Scene.eight();
         Scene.free(x, 6, 13);
         Scene.free(x, 7, 13);
-        due.is("pairs: the last two", x.pairs(), 67);
         Scene.free(x, 2, 0, 13);
         Scene.free(x, 5, 0);
         due.is("pairs: 2 and 5 ahead of 2 and 6, 6 and 7", x.pairs(), 25);
@@ -263,6 +354,11 @@ public final class EdgesOfDinnersTest {
         due.is("alone of all", MOST.get().alone(), 0);
         due.is("alone of all who have none FREE", Scene.eight().alone(), 255);
         due.is("alone", persons(14, on(0, 13), on(1, 2), on(13)).alone(), 2);
+        for (int p = 0; p < 8; p++) {
+            WhenCanAllSix x = MOST.get();
+            x.clear(p);
+            due.is("alone who has none FREE", x.alone(), 1 << p);
+        }
         due.is("alone: not by TICKS", persons(3, on(0), on(1), on(2)).alone(), 7);
     }
 

@@ -109,6 +109,9 @@ public final class EdgesOfPlansTest {
         x.days(2);
         due.is("meant, 2 DAYS", x.meant(0, 0), 1 + 2 + 4 + 8);
         due.is("freed, 2 DAYS", x.freed(0, 0), 3);
+        Scene.row(x, 1, 0, 2, 2, 2, 1);
+        due.is("meant, TICKS behind", x.meant(1, 0), 1 + 2 + 4 + 8);
+        due.is("freed, TICKS behind", x.freed(1, 0), 3);
         x.row(1, 3, 40);
         due.is("meant by a ROW of 40", x.meant(1, 0), 0);
         x.row(1, 3, 1);
@@ -147,7 +150,10 @@ public final class EdgesOfPlansTest {
         due.refused(Due.BAD, TOLD, call + "(1, 0), BAD: fewer elements, ahead of STUCK", x -> shelf.on(x, 1));
         due.refused(Due.STUCK, TOLD, call + "(4, 0)", x -> shelf.on(x, 4));
         for (long tick : new long[] {-1, 3, FAR, FAR + 2, Long.MIN_VALUE, Long.MAX_VALUE}) {
-            due.refused(Due.STUCK, () -> one(0, 0, 2, tick), call + ", " + tick + " is no TICK", x -> shelf.on(x, 0));
+            String what = call + ", " + tick + " is no TICK";
+            due.refused(Due.STUCK, () -> one(0, 0, tick, 2, 2), what + ", the first", x -> shelf.on(x, 0));
+            due.refused(Due.STUCK, () -> one(0, 0, 2, tick, 2), what + ", another", x -> shelf.on(x, 0));
+            due.refused(Due.STUCK, () -> one(0, 0, 2, 2, tick), what + ", the last", x -> shelf.on(x, 0));
         }
         for (long tick = 0; tick <= 2; tick++) {
             long told = tick;

@@ -286,6 +286,10 @@ public final class EdgesOfShelvesTest {
         due.is("element(0, 1), of a ROW that was", x.element(0, 1), 0);
         x.show(1, -1);
         due.is("element(1, 1), of a ROW that was", x.element(1, 1), 0);
+        x.row(6, 3, 40);
+        x.set(6, 39, 5);
+        due.row("element(6, 39 +) of a ROW of 40 elements", i -> x.element(6, 39 + i), 5, 0, 0);
+        due.is("element(6, -1) of it", x.element(6, -1), 0);
         x.row(7, 0, 1);
         x.set(7, 0, 5);
         due.row("element(7, i), of a ROW of 1 element", i -> x.element(7, i), 5, 0);

@@ -316,6 +316,13 @@ public final class EdgesOfTapeTest {
 
     private static void firstTokenThatCannotStand() {
         due.sentence(16, "The FAULT: the place of the first byte of the first TOKEN that can't stand there");
+        for (String word : new String[] {"days", "person", "free", "busy", "host", "least", "lose", "out"}) {
+            for (int i = 0; i < word.length(); i++) {
+                fault(0, RICH, word.substring(0, i) + "k" + word.substring(i + 1) + " 1 1 1");
+                fault(0, RICH, word.substring(0, i) + word.substring(i + 1) + " 1 1 1");
+            }
+            fault(0, RICH, word + "s 1 1 1");
+        }
         fault(0, "9");
         fault(0, "dine 1");
         fault(0, "day 1");

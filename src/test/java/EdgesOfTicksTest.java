@@ -193,12 +193,12 @@ public final class EdgesOfTicksTest {
         due.row("there, nobody", Scene.nobody(2)::there, 0, 0, Due.BAD);
         due.row("there, all", Scene.allFree(8, 2)::there, 255, 255);
         due.row("there: not by TICKS", add(add(one(2, 1, 0, 0), 3, 0), 4, 0, 1)::there, 1, 4);
-        WhenCanAllSix ends = Scene.eight();
-        ends.free(0, 13, true);
-        ends.free(7, 13, true);
-        ends.free(7, 0, true);
-        due.is("there(13)", ends.there(13), 129);
-        due.is("there(0)", ends.there(0), 128);
+        WhenCanAllSix x = Scene.eight();
+        for (int p = 0; p < 8; p++) {
+            x.free(p, p, true);
+            x.free(p, 13, true);
+        }
+        due.row("there", x::there, 1, 2, 4, 8, 16, 32, 64, 128, 0, 0, 0, 0, 0, 255);
     }
 
     private static void there() {
@@ -254,6 +254,15 @@ public final class EdgesOfTicksTest {
         due.is("quiet of nobody on 14 DAYS", Scene.nobody(14).quiet(), 16383);
         due.is("quiet with a POLITE", one(14, 1, 0).quiet(), 0);
         due.is("quiet with 1s", one(14, 3, 0).quiet(), 16383);
+        due.is("quiet of the most PEOPLE, with a POLITE", Scene.eight().quiet(), 0);
+        for (int day = 0; day < 14; day++) {
+            WhenCanAllSix x = Scene.nobody(14);
+            for (int p = 0; p < 8; p++) {
+                x.person(0, 0, 0);
+            }
+            x.free(day % 8, day, true);
+            due.is("quiet but for " + day, x.quiet(), 16383 - (1 << day));
+        }
         due.is("quiet but for the first and the last", add(one(14, 0, 0, 0), 0, 0, 13).quiet(), 8190);
         due.is("quiet: FREE, but no 2", one(3, 5, 1, 0, 1, 2).quiet(), 5);
     }

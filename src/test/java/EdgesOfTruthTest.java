@@ -174,6 +174,13 @@ public final class EdgesOfTruthTest {
             fills(Scene.allFree(1, 1), seed);
         }
         fills(Scene.nobody(14), 5);
+        for (int kind = 0; kind <= 5; kind++) {
+            WhenCanAllSix mixed = Scene.nobody(3);
+            for (int likely : new int[] {0, 6, 12, 6, 0, 12, 1, 11}) {
+                mixed.person(kind, 1, likely);
+            }
+            fills(mixed, 9 + kind);
+        }
         WhenCanAllSix x = new WhenCanAllSix();
         x.person(1, 0, 0);
         x.person(2, 0, 12);
@@ -337,6 +344,8 @@ public final class EdgesOfTruthTest {
         y.image();
         y.person(0, 0, 0);
         y.free(0, 3, true);
+        y.free(1, 3, true);
+        y.out(1, 7);
         y.show(0, 0);
         y.show(1, 1);
         y.show(7, 1);
@@ -346,13 +355,17 @@ public final class EdgesOfTruthTest {
         due.is("says(0, 0), as he was kept", y.says(0, 0), 0);
         due.is("says(0, 2)", y.says(0, 2), 9);
         due.is("status(9)", y.status(9), 2);
-        y.person(0, 0, 0);
+        due.is("person", y.person(3, 1, 2), 1);
+        due.row("personOf(1, i), as any new one", i -> y.personOf(1, i), 3, 1, 2, 0, 0);
         due.is("holds(1), it was NOTHING", y.holds(1), -1);
         WhenCanAllSix nobody = new WhenCanAllSix();
         nobody.image();
-        nobody.show(3, nobody.person(0, 0, 0));
+        nobody.person(0, 0, 0);
+        for (int s = 0; s <= 7; s++) {
+            nobody.show(s, 0);
+        }
         nobody.back();
-        due.is("holds(3), back to nobody", nobody.holds(3), -1);
+        due.row("holds, back to nobody", nobody::holds, -1, -1, -1, -1, -1, -1, -1, -1);
         due.is("status(0)", nobody.status(0), 0);
     }
 
@@ -372,6 +385,11 @@ public final class EdgesOfTruthTest {
             + "THE TAPE's size (7), SEED (8), SHELVES that hold something (9); 12 to 16: REFUSALS -2 to -6. "
             + "NONE another what.");
         due.row("status of the least", new WhenCanAllSix()::status, 0, 11, 0, 2, 1, 0, 0, 0, 1, 0);
+        for (int s = 0; s <= 7; s++) {
+            WhenCanAllSix x = new WhenCanAllSix();
+            x.row(s, 4, 0);
+            due.is("status(9), SHELF " + s + " alone", x.status(9), 1);
+        }
         due.row("status of six", Scene.rich()::status, 6, 9, 5, 2, 7, 1, 13, 6, 77, 3);
         WhenCanAllSix most = Scene.eight();
         for (int p = 0; p < 8; p++) {

@@ -77,7 +77,8 @@ public final class PlansTest {
         long[] ticks = {0, 1, 2, 0, 1, 2, 0, 0, 2, 3};
         int twos = 4 + 32 + 256;
         WhenCanAllSix x = ticked(0, ticks);
-        due.row("freed(0, i)", i -> x.freed(0, i), twos, 0, twos + 2 + 16, twos, twos, twos);
+        due.row("freed(0, i)", i -> x.freed(0, i), twos, 0, twos + 2 + 16, twos);
+        due.is("freed(0, 5)", x.freed(0, 5), twos);
         due.refused(Due.BAD, WITH, "freed(-1, 0)", y -> y.freed(-1, 0));
         due.refused(Due.BAD, WITH, "freed(8, 0)", y -> y.freed(8, 0));
         due.refused(Due.BAD, WITH, "freed(2, -1)", y -> y.freed(2, -1));

@@ -85,7 +85,7 @@ public final class ShelvesTest {
         due.row("element(0, i)", i -> x.element(0, i), 1, 1, 4, 5, 6, 7, 8, 9, 10, 11);
         due.is("copy(0, 0, 2, 0, 8), overlapping", x.copy(0, 0, 2, 0, 8), 8);
         due.row("element(0, i)", i -> x.element(0, i), 4, 5, 6, 7, 8, 9, 10, 11, 10, 11);
-        due.is("copy(0, 4, 10, 5, 0), of none", x.copy(0, 4, 10, 5, 0), 0);
+        due.is("copy(0, 4, 9, 4, 0), of none", x.copy(0, 4, 9, 4, 0), 0);
         due.refused(Due.BAD, WITH, "copy(-1, 2, 0, 0, 1)", y -> y.copy(-1, 2, 0, 0, 1));
         due.refused(Due.BAD, WITH, "copy(8, 2, 0, 0, 1)", y -> y.copy(8, 2, 0, 0, 1));
         due.refused(Due.BAD, WITH, "copy(2, -1, 0, 0, 1)", y -> y.copy(2, -1, 0, 0, 1));
