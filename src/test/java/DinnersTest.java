@@ -25,12 +25,6 @@ public final class DinnersTest {
         due.end();
     }
 
-    private static WhenCanAllSix days(int n) {
-        WhenCanAllSix x = new WhenCanAllSix();
-        x.days(n);
-        return x;
-    }
-
     private static void two() {
         due.promise(29);
         WhenCanAllSix x = Scene.persons(4, Scene.on(2), Scene.on(0, 3), Scene.on(3));
@@ -39,12 +33,12 @@ public final class DinnersTest {
         due.row("two(i - 1): of several the first by rows", i -> six.two(i - 1), 5, 0, 4);
         WhenCanAllSix late = Scene.persons(14, Scene.on(13), Scene.on(12));
         due.row("two(i - 1): the last row", i -> late.two(i - 1), 2, 12, 13);
-        WhenCanAllSix nobody = days(2);
+        WhenCanAllSix nobody = Scene.nobody(2);
         due.row("two(i - 1) of nobody", i -> nobody.two(i - 1), 0, 0, 1);
         due.refused(Due.BAD, SIX, "two(-2)", y -> y.two(-2));
-        due.refused(Due.BAD, () -> days(1), "two(2)", y -> y.two(2));
-        due.refused(Due.STUCK, () -> days(1), "two(-1)", y -> y.two(-1));
-        due.refused(Due.STUCK, () -> days(1), "two(1)", y -> y.two(1));
+        due.refused(Due.BAD, () -> Scene.nobody(1), "two(2)", y -> y.two(2));
+        due.refused(Due.STUCK, () -> Scene.nobody(1), "two(-1)", y -> y.two(-1));
+        due.refused(Due.STUCK, () -> Scene.nobody(1), "two(1)", y -> y.two(1));
     }
 
     private static void fixed() {
@@ -57,7 +51,7 @@ public final class DinnersTest {
         due.is("fixed", x.fixed(), 3);
         due.is("fixed of six", Scene.six().fixed(), 4);
         due.is("fixed: the last", Scene.persons(7, Scene.on(6)).fixed(), 6);
-        due.is("fixed of nobody", days(1).fixed(), 0);
+        due.is("fixed of nobody", Scene.nobody(1).fixed(), 0);
     }
 
     private static void fair() {
@@ -163,12 +157,12 @@ public final class DinnersTest {
         due.row("three(i - 1): of several the first by rows", i -> six.three(i - 1), 5, 0, 1, 4);
         WhenCanAllSix late = Scene.persons(14, Scene.on(13), Scene.on(12), Scene.on(11));
         due.row("three(i - 1): the last row", i -> late.three(i - 1), 3, 11, 12, 13);
-        WhenCanAllSix nobody = days(3);
+        WhenCanAllSix nobody = Scene.nobody(3);
         due.row("three(i - 1) of nobody", i -> nobody.three(i - 1), 0, 0, 1, 2);
         due.refused(Due.BAD, SIX, "three(-2)", y -> y.three(-2));
-        due.refused(Due.BAD, () -> days(2), "three(3)", y -> y.three(3));
-        due.refused(Due.STUCK, () -> days(2), "three(-1)", y -> y.three(-1));
-        due.refused(Due.STUCK, () -> days(2), "three(2)", y -> y.three(2));
+        due.refused(Due.BAD, () -> Scene.nobody(2), "three(3)", y -> y.three(3));
+        due.refused(Due.STUCK, () -> Scene.nobody(2), "three(-1)", y -> y.three(-1));
+        due.refused(Due.STUCK, () -> Scene.nobody(2), "three(2)", y -> y.three(2));
     }
 
     private static void run() {
@@ -188,7 +182,7 @@ public final class DinnersTest {
         due.promise(46);
         WhenCanAllSix x = Scene.persons(14, Scene.on(2, 9), Scene.on(9, 13), Scene.on(3));
         due.row("weeks", x::weeks, 0, 0, 3, 1, 0, 0, 1);
-        due.is("weeks of few DAYS", days(1).weeks(6), 0);
+        due.is("weeks of few DAYS", Scene.nobody(1).weeks(6), 0);
         due.refused(Due.BAD, SIX, "weeks(-1)", y -> y.weeks(-1));
         due.refused(Due.BAD, SIX, "weeks(7)", y -> y.weeks(7));
     }

@@ -164,7 +164,8 @@ public final class EdgesOfDinnersTest {
         due.rowFromNone("two: the last row", persons(14, on(12), on(13))::two, 2, 12, 13);
         due.rowFromNone("two: 0 and 2 ahead of 1 and 2", persons(3, on(0, 1), on(2))::two, 2, 0, 2);
         due.rowFromNone("two: 0 and 3 ahead of 1 and 2", persons(4, on(0, 1), on(2, 3))::two, 2, 0, 2);
-        due.rowFromNone("two: who is THERE on both is one", persons(4, on(0, 1), on(0, 1), on(2), on(3), on(3))::two, 4, 0, 3);
+        WhenCanAllSix twice = persons(4, on(0, 1), on(0, 1), on(2), on(3), on(3));
+        due.rowFromNone("two: who is THERE on both is one", twice::two, 4, 0, 3);
         due.rowFromNone("two: not by TICKS", Scene.eight()::two, 0, 0, 1);
         due.is("two(NONE) of one DAY", Scene.allFree(8, 1).two(-1), Due.STUCK);
     }
