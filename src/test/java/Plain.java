@@ -384,7 +384,7 @@ final class Plain {
         return Arrays.stream(plan).mapToInt(d -> (int) d).toArray();
     }
 
-    private static final Pattern TOKEN = Pattern.compile(" *([a-z]+|[0-9]+|;|$|(?s:.))");
+    private static final Pattern TOKEN = Pattern.compile(" *([a-z]+|[0-9]+|;|\\z|(?s:.))");
 
     /** The statements of THE TAPE, told to a copy. */
     private long calendar() {

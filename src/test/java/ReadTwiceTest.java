@@ -40,7 +40,7 @@ public final class ReadTwiceTest {
     }
 
     public static void main(String[] args) throws Exception {
-        int runs = args.length > 0 ? Integer.parseInt(args[0]) : 1000;
+        int runs = args.length > 0 ? Integer.parseInt(args[0]) : 3000;
         int wrong = 0;
         for (int run = 0; run < runs && wrong < 10; run++) {
             String differs = new ReadTwiceTest(run).differs();
