@@ -4,6 +4,8 @@ import java.nio.file.Path;
 import java.nio.file.StandardCopyOption;
 import java.util.ArrayList;
 import java.util.List;
+import java.util.regex.MatchResult;
+import java.util.regex.Pattern;
 
 /**
  * The commands of README.md: the first runs all tests that there are, and fails if one fails; the second runs one.
@@ -12,10 +14,14 @@ import java.util.List;
 public final class ReadmeCommandTest {
     private static final Due due = new Due("ReadmeCommandTest");
 
+    /** A block of one line for the shell. */
+    private static final Pattern COMMAND = Pattern.compile("(?m)^```sh\n(.*)\n```$");
+
     private static final Path OWN = Path.of("src/test/java");
     private static final Path MAIN = Path.of("src/main/java");
     private static final Path SHARED = Path.of("../shared/tests");
-    private static final String MAIN_METHOD = "public static void main(String[] args)";
+    private static final Path OWN_TEST = OWN.resolve("OwnTest.java");
+    private static final Path SHARED_TEST = SHARED.resolve("SharedRuns.java");
 
     private static final String PASSES = "";
     private static final String FAILS = "System.exit(1);";
@@ -23,7 +29,8 @@ public final class ReadmeCommandTest {
     private static final String DOES_NOT_COMPILE = "no Java;";
 
     public static void main(String[] args) throws Exception {
-        List<String> commands = Readme.blocks("sh").stream().map(String::trim).toList();
+        List<String> commands = COMMAND.matcher(Files.readString(Path.of("README.md"))).results()
+            .map((MatchResult block) -> block.group(1)).toList();
         due.is("commands in README.md", commands.size(), 2);
         allTestsRun(commands.get(0));
         oneFails(commands.get(0));
@@ -31,37 +38,33 @@ public final class ReadmeCommandTest {
         due.end();
     }
 
-    private static List<String> namesOfTests(Path folder) throws IOException {
-        List<String> names = new ArrayList<>();
+    /** All files under a folder that have a main method: what lies deeper, or has a name of its own, is a test too. */
+    private static List<Path> testsUnder(Path folder) throws IOException {
+        List<Path> tests = new ArrayList<>();
         for (Path path : Shell.under(folder)) {
-            if (path.toString().endsWith(".java") && Files.readString(path).contains(MAIN_METHOD)) {
-                names.add(path.getFileName().toString().replace(".java", ""));
+            if (path.toString().endsWith(".java") && Files.readString(path).contains("static void main(")) {
+                tests.add(path);
             }
         }
-        return names;
+        return tests;
     }
 
     private static void allTestsRun(String command) throws IOException, InterruptedException {
-        List<String> own = namesOfTests(OWN);
-        List<String> shared = namesOfTests(SHARED);
-        due.isTrue("tests of the project are found: " + own, own.contains("ReadmeCommandTest") && own.size() > 20);
+        List<Path> tests = testsUnder(OWN);
+        due.isTrue("tests of the project are found: " + tests, tests.contains(OWN.resolve("ReadmeCommandTest.java")));
+        List<Path> shared = testsUnder(SHARED);
         due.isTrue("tests under ../shared/tests are found", !shared.isEmpty());
+        tests.addAll(shared);
         Path project = newProject();
-        for (String name : own) {
-            standIn(project.resolve(OWN), name, PASSES);
-        }
-        for (String name : shared) {
-            standIn(project.resolve(SHARED), name, PASSES);
+        for (Path test : tests) {
+            standIn(project, test, PASSES);
         }
         Shell run = Shell.run(project, command);
         due.is("the exit code of " + command, run.exit, 0);
-        for (String name : own) {
-            due.is("runs of " + name, run.timesPrinted("own " + name), 1);
+        for (Path test : tests) {
+            due.is("runs of " + test, run.timesPrinted("stand-in for " + test), 1);
         }
-        for (String name : shared) {
-            due.is("runs of " + name, run.timesPrinted("shared " + name), 1);
-        }
-        due.is("its count of tests", run.timesPrinted(own.size() + shared.size() + " passed, 0 failed"), 1);
+        due.is("its count of tests", run.timesPrinted(tests.size() + " passed, 0 failed"), 1);
     }
 
     private static void oneFails(String command) throws IOException, InterruptedException {
@@ -71,11 +74,11 @@ public final class ReadmeCommandTest {
         fails(command, PASSES, DOES_NOT_COMPILE);
         fails(command, DOES_NOT_COMPILE, PASSES);
         Path noShared = newProject();
-        standIn(noShared.resolve(OWN), "OwnTest", PASSES);
+        standIn(noShared, OWN_TEST, PASSES);
         due.isTrue("without a test under ../shared/tests it fails", Shell.run(noShared, command).exit != 0);
         Path noClass = newProject();
-        standIn(noClass.resolve(OWN), "OwnTest", PASSES);
-        standIn(noClass.resolve(SHARED), "SharedRuns", PASSES);
+        standIn(noClass, OWN_TEST, PASSES);
+        standIn(noClass, SHARED_TEST, PASSES);
         Files.writeString(noClass.resolve(MAIN).resolve("WhenCanAllSix.java"), DOES_NOT_COMPILE);
         due.isTrue("without a class that compiles it fails", Shell.run(noClass, command).exit != 0);
     }
@@ -83,8 +86,8 @@ public final class ReadmeCommandTest {
     /** One of two tests fails; the other is run all the same. */
     private static void fails(String command, String own, String shared) throws IOException, InterruptedException {
         Path project = newProject();
-        standIn(project.resolve(OWN), "OwnTest", own);
-        standIn(project.resolve(SHARED), "SharedRuns", shared);
+        standIn(project, OWN_TEST, own);
+        standIn(project, SHARED_TEST, shared);
         Shell run = Shell.run(project, command);
         String which = "one's own test " + own + ", the shared one " + shared + ": ";
         due.isTrue(which + "it fails", run.exit != 0);
@@ -93,22 +96,22 @@ public final class ReadmeCommandTest {
         due.is(which + "shared failed", run.timesPrinted("FAILED: SharedRuns"), shared.isEmpty() ? 0 : 1);
     }
 
-    /** A folder with this project's .ci/run, a class, and ../shared/tests beside it. */
+    /** A folder with this project's .ci/run and a class; no test yet. */
     private static Path newProject() throws IOException {
         Path project = Files.createDirectory(Shell.newFolder().resolve("main"));
         Files.createDirectories(project.resolve(".ci"));
-        Files.createDirectories(project.resolve(OWN));
         Files.createDirectories(project.resolve(MAIN));
-        Files.createDirectories(project.resolve(SHARED).normalize());
         Files.copy(Path.of(".ci/run"), project.resolve(".ci/run"), StandardCopyOption.COPY_ATTRIBUTES);
         Files.writeString(project.resolve(MAIN).resolve("WhenCanAllSix.java"), "public final class WhenCanAllSix { }");
         return project;
     }
 
-    private static void standIn(Path folder, String name, String ending) throws IOException {
-        String side = folder.endsWith(OWN) ? "own " : "shared ";
-        Files.writeString(folder.normalize().resolve(name + ".java"), "public final class " + name + " { " + MAIN_METHOD
-            + " { new WhenCanAllSix(); System.out.println(\"" + side + name + "\"); " + ending + " } }");
+    private static void standIn(Path project, Path test, String ending) throws IOException {
+        Path place = project.resolve(test).normalize();
+        Files.createDirectories(place.getParent());
+        Files.writeString(place, "public final class " + test.getFileName().toString().replace(".java", "")
+            + " { public static void main(String[] args) { new WhenCanAllSix();"
+            + " System.out.println(\"stand-in for " + test + "\"); " + ending + " } }");
     }
 
     private static void oneAlone(String command) throws IOException, InterruptedException {

@@ -3,8 +3,6 @@ import java.lang.reflect.Method;
 import java.lang.reflect.Modifier;
 import java.nio.file.Files;
 import java.nio.file.Path;
-import java.util.ArrayList;
-import java.util.List;
 import java.util.Set;
 import java.util.TreeSet;
 import java.util.regex.Matcher;
@@ -19,21 +17,23 @@ public final class ReadmeUseTest {
     private static final Pattern PREPARING =
         Pattern.compile("WhenCanAllSix x = new WhenCanAllSix\\(\\);|String \\w+ = .*;|for \\(.*\\) x\\.feed\\(letter\\);");
 
+    /** "| 2 WAITING | 0 | 1 |": the TICKS of 2 for DAYS 0 and 1; "| COUNT | 3 | 6 |": their COUNTS. */
+    private static final Pattern TOLD_ROW = Pattern.compile("\\| (?:(\\d) [A-Z]+|COUNT) \\|((?: \\d+ \\|)+)");
+
+    private static final StringBuilder steps = new StringBuilder();
+    private static final Set<String> shown = new TreeSet<>();
+    private static int answers;
+    private static int rows;
+
     public static void main(String[] args) throws Exception {
-        StringBuilder steps = new StringBuilder();
-        Set<String> shown = new TreeSet<>();
-        int answers = 0;
-        for (String line : lines()) {
-            Matcher answered = ANSWERED.matcher(line);
-            if (answered.matches()) {
-                shown.add(answered.group(2));
-                answers++;
-                steps.append("        said(\"" + answered.group(1).replace("\"", "\\\"") + "\", ")
-                    .append(answered.group(1) + ", " + answered.group(3) + ");\n");
+        boolean isJava = false;
+        for (String line : Files.readAllLines(Path.of("README.md"))) {
+            if (line.startsWith("```")) {
+                isJava = line.equals("```java");
+            } else if (isJava) {
+                readStep(line);
             } else {
-                due.isTrue("README.md tells what this answers, or it prepares a call: " + line,
-                    PREPARING.matcher(line).matches());
-                steps.append("        " + line + "\n");
+                readRow(line);
             }
         }
         for (Method method : WhenCanAllSix.class.getDeclaredMethods()) {
@@ -42,20 +42,42 @@ public final class ReadmeUseTest {
             }
         }
         due.is("calls of the face", shown.size(), 64);
-        runSteps(steps.toString(), answers);
+        due.is("rows of TICKS and COUNTS", rows, 7);
+        runSteps();
         due.end();
     }
 
-    private static List<String> lines() throws IOException {
-        List<String> lines = new ArrayList<>();
-        for (String block : Readme.blocks("java")) {
-            lines.addAll(block.lines().toList());
+    private static void readStep(String line) {
+        Matcher answered = ANSWERED.matcher(line);
+        if (answered.matches()) {
+            shown.add(answered.group(2));
+            said(answered.group(1), answered.group(3));
+        } else {
+            due.isTrue("README.md tells what this answers, or it prepares a call: " + line,
+                PREPARING.matcher(line).matches());
+            steps.append("        " + line + "\n");
         }
-        return lines;
+    }
+
+    private static void readRow(String line) {
+        Matcher row = TOLD_ROW.matcher(line);
+        if (!row.matches()) {
+            return;
+        }
+        rows++;
+        String[] told = row.group(2).replace(" ", "").split("\\|");
+        for (int day = 0; day < told.length; day++) {
+            said(row.group(1) == null ? "x.count(" + day + ")" : "x.tick(" + row.group(1) + ", " + day + ")", told[day]);
+        }
+    }
+
+    private static void said(String call, String answer) {
+        answers++;
+        steps.append("        said(\"" + call.replace("\"", "\\\"") + "\", " + call + ", " + answer + ");\n");
     }
 
     /** All blocks are one program, as each goes on with the object of those ahead; compiled as README.md says. */
-    private static void runSteps(String steps, int answers) throws IOException, InterruptedException {
+    private static void runSteps() throws IOException, InterruptedException {
         Path folder = Shell.newFolder();
         Files.copy(Path.of("src/main/java/WhenCanAllSix.java"), folder.resolve("WhenCanAllSix.java"));
         Files.writeString(folder.resolve("ReadmeUse.java"), """
@@ -73,7 +95,7 @@ public final class ReadmeUseTest {
             STEPS        System.out.println("as told: " + asTold);
                 }
             }
-            """.replace("STEPS", steps));
+            """.replace("STEPS", steps.toString()));
         Shell run = Shell.run(folder, "javac -Xlint:all WhenCanAllSix.java ReadmeUse.java && java ReadmeUse");
         due.is("the exit code of the calls in README.md", run.exit, 0);
         due.isTrue("all answers are as README.md tells them:\n" + run.printed,
